@@ -935,8 +935,13 @@ public final class FlagLayers {
                 turned.first = readPart(open + 1);
                 return turned;
             }
-            if (sort == Sort.TRUE || sort == Sort.FALSE || sort == Sort.IN) {
-                return readWordPart(sort);
+            if (sort == Sort.TRUE || sort == Sort.FALSE) {
+                return newPart(sort, take(sort));
+            }
+            if (sort == Sort.IN) {
+                Part inside = newPart(Sort.IN, take(Sort.IN));
+                inside.segment = takeKnownName(plan.segmentNames);
+                return inside;
             }
             Part test = newTest();
             if (test.sort == Sort.AMONG) {
@@ -945,14 +950,6 @@ public final class FlagLayers {
                 readTest(test);
             }
             return test;
-        }
-
-        private Part readWordPart(Sort sort) {
-            Part part = newPart(sort, take(sort));
-            if (sort == Sort.IN) {
-                part.segment = takeKnownName(plan.segmentNames);
-            }
-            return part;
         }
 
         private Part newTest() {

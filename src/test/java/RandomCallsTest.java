@@ -14,7 +14,7 @@ public final class RandomCallsTest {
     private final Probe probe = new Probe();
 
     public static void main(String[] args) {
-        for (int i = 0; i < 60; i++) {
+        for (int i = 0; i < 240; i++) {
             new RandomCallsTest(i).callAll();
         }
         Probe.finish();
@@ -25,7 +25,7 @@ public final class RandomCallsTest {
     }
 
     private void callAll() {
-        for (int i = 0; i < 400; i++) {
+        for (int i = 0; i < 100; i++) {
             int which = random.nextInt(18);
             try {
                 call(which);
