@@ -12,6 +12,9 @@ public final class LoadTest {
         shares();
         needs();
         rings();
+        longRings();
+        knownNamesAreAny();
+        faultOfLatestLoad();
         firstFromTheLeft();
         whatThereWasStays();
         Probe.finish();
@@ -64,6 +67,16 @@ public final class LoadTest {
         Probe.dueFault("segment s = k among (3, ^);", 2);
         Probe.dueFault("segment s = k among (3 ^4);", 2);
         Probe.dueFault("segment s = in ^in;", 2);
+        Probe.dueFault("segment s = k^;", 2);
+        Probe.dueFault("segment s = (k^) or true;", 2);
+        Probe.dueFault("segment s = k ^or true;", 2);
+        Probe.dueFault("segment s = k ^k;", 2);
+        Probe.dueFault("segment s = k among (^);", 2);
+        Probe.dueFault("segment s = k below ^k;", 2);
+        Probe.dueFault("segment s = k begins ^5;", 2);
+        Probe.dueFault("segment s = k ends ^-5;", 2);
+        Probe.dueFault("segment s = ^'k' is 1;", 2);
+        Probe.dueFault("segment s = ^1 is 1;", 2);
         Probe.dueFault("flag a : choice(^) { default a; off a; }", 2);
         Probe.dueFault("flag a : choice(x ^y)", 2);
         Probe.dueFault("flag a : choice(x, ^true)", 2);
@@ -79,7 +92,11 @@ public final class LoadTest {
         Probe.dueFault("flag a : choice(x) { default ^true; off x; }", 2);
         Probe.dueFault("flag a : bool { default true; off ^roll 1 k 's' true else false; }", 2);
         Probe.dueFault(B + "layer l { ^default b = 1; }", 2);
+        Probe.dueFault(B + "layer l { ^b ; }", 2);
+        Probe.dueFault(B + "layer l { ^b true -> 1; }", 2);
+        Probe.dueFault(B + "layer l { ^needs b = 1; }", 2);
         Probe.dueFault(B + "layer l { set b ^1; }", 2);
+        Probe.dueFault(B + "layer l { rule b true -> 1; } layer m { rule b ^-> 1; }", 2);
         Probe.dueFault(B + "layer l { off b ^= 1; }", 2);
         Probe.dueFault(B + "layer l { set b = 1;^", 2);
         Probe.dueFault(C + "layer l { rule c true -> ^z; }", 2);
@@ -111,6 +128,19 @@ public final class LoadTest {
         Probe.dueFault("layer l { set ^b = 1; } " + B, 3);
         Probe.dueFault("layer l { rule ^b true -> 1; } " + B, 3);
         Probe.dueRight("segment s = true; segment S = true;", 0);
+        // The names of segments, flags, layers and the choices of each flag are apart from each other.
+        Probe.dueRight("segment x = true; flag x : choice(x, y) { default x; off y; } flag y : choice(y, x) { default x; off y; }"
+                + " layer x { set x = x; set y = y; } layer y of x { }", 2);
+        Probe.dueFault(B + "segment s = in ^b;", 3);
+        Probe.dueFault(B + "layer l of ^b { }", 3);
+        Probe.dueFault("segment s = true; layer l { off ^s; }", 3);
+        Probe.dueFault("segment s = true; layer m { } " + A + "needs ^s = true; }", 3);
+        Probe.dueFault("layer m { } " + A + "needs ^m = true; }", 3);
+        Probe.dueFault(C + "flag d : choice(z) { default ^x; off z; }", 2);
+        // Told a second time, though the first one is of another kind or value.
+        Probe.dueFault(B + "flag ^b : bool", 3);
+        Probe.dueFault("segment s = true; segment t = true; segment ^s = false;", 3);
+        Probe.dueFault("layer l { } layer m of l { } layer ^l of m { }", 3);
     }
 
     private static void shares() {
@@ -138,6 +168,18 @@ public final class LoadTest {
         Probe.dueRight(A + "needs b = 7; needs c = y; needs b = 8; } " + B + C, 3);
         // A fault of the text itself comes before those of needs, wherever it is.
         Probe.dueFault(A + "needs z = true; } ^;", 2);
+        Probe.dueFault(A + "needs z = true; } flag ^a", 3);
+        Probe.dueFault(A + "needs z = true; ^", 2);
+        // The flag itself, whatever the value; and an unknown flag before its value.
+        Probe.dueFault(A + "needs ^a = 5; }", 3);
+        Probe.dueFault(A + "needs ^z = x; }", 3);
+        // In the order of the text, flag by flag.
+        Probe.dueFault(A + "needs b = 1; needs c = ^z; } " + B + "flag d : bool { default true; off true; needs y = 1; } " + C, 2);
+        Probe.dueFault(A + "needs b = 1; } " + B + C + "flag d : bool { default true; off true; needs ^y = 1; needs b = x; }", 3);
+        Probe.dueRight(B + C + A + "needs b = -999999999; needs c = x; }", 3);
+        Probe.dueRight(A + "needs d = false; } flag d : bool { default true; off true; }", 2);
+        Probe.dueFault(A + "needs d = ^1; } flag d : bool { default true; off true; }", 2);
+        Probe.dueFault(A + "needs d = ^x; } flag d : bool { default true; off true; }", 2);
     }
 
     private static void rings() {
@@ -176,5 +218,54 @@ public final class LoadTest {
         Probe.due("why is gone", probe.x().why(0), -1);
         Probe.due("load uses up a right text, too", probe.x().load(), 0);
         Probe.due("an empty text has no flags", probe.x().count(1), 0);
+    }
+
+    private static String chain(int count, String last) {
+        StringBuilder text = new StringBuilder();
+        for (int i = 0; i < count; i++) {
+            text.append("flag f").append(i).append(":bool{default true;off false;");
+            text.append(i < count - 1 ? "needs f" + (i + 1) + "=true;" : last).append("}");
+        }
+        return text.toString();
+    }
+
+    private static void longRings() {
+        Probe.dueRight(chain(24, ""), 24);
+        Probe.dueFault(chain(24, "needs f0=true;").replaceFirst("needs f1=", "needs ^f1="), 6);
+        Probe.dueFault(chain(24, "needs f5=true;").replaceFirst("needs f6=", "needs ^f6="), 6);
+        Probe.dueFault(chain(24, "needs f22=true;").replaceFirst("needs f23=", "needs ^f23="), 6);
+        Probe.dueFault(chain(24, "needs ^f23=true;"), 3);
+        String on = " : bool { default true; off false; needs ";
+        // Two rings: the first needs of the text that is in one.
+        Probe.dueFault("flag a" + on + "b = true; needs ^d = true; } flag b : bool { default true; off true; } flag c" + on
+                + "d = true; } flag d" + on + "c = true; needs a = true; }", 6);
+        Probe.dueFault("flag a" + on + "^b = true; } flag b" + on + "a = true; } flag c" + on + "d = true; } flag d" + on + "c = true; }",
+                6);
+        // Many ways to the same flag are no ring.
+        Probe.dueRight("flag a" + on + "b = true; needs c = true; needs d = true; } flag b" + on + "c = true; needs d = true; }"
+                + "flag c" + on + "d = true; } flag d : bool { default true; off false; }", 4);
+    }
+
+    /** Before a test, behind split and behind the NUMBER of roll any NAME may stand, told or not. */
+    private static void knownNamesAreAny() {
+        Probe.dueRight("segment s = s is 1 or t given;", 0);
+        Probe.dueRight("flag a : bool { default roll 5 a '' true else false; off true; rule b given -> split zz '' (10000:true); }", 1);
+    }
+
+    private static void faultOfLatestLoad() {
+        Probe probe = new Probe();
+        String[] texts = {"", "#", "", "flag", "segment s = in s;", "segment s = true;", B + "layer l { set b = roll 10001",
+            "flag a : what", "segment s = " + Probe.times(21, "not "), B};
+        int[] kinds = {0, 1, 0, 2, 3, 0, 4, 2, 5, 0};
+        Probe.due("fault before any load", probe.x().fault(), 0);
+        for (int i = 0; i < texts.length; i++) {
+            probe.tape(texts[i]);
+            Probe.due("fault while the text is on the tape", probe.x().fault(), i == 0 ? 0 : kinds[i - 1]);
+            probe.x().load();
+            Probe.due("fault of " + texts[i], probe.x().fault(), kinds[i]);
+            probe.x().forget();
+            probe.find(0, "s");
+            Probe.due("fault asked again", probe.x().fault(), kinds[i]);
+        }
     }
 }

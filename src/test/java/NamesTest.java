@@ -9,8 +9,11 @@ public final class NamesTest {
 
     public static void main(String[] args) {
         finding();
+        findingWhatIsCut();
         naming();
+        eachByteOfEachName();
         flags();
+        fullFlag();
         Probe.finish();
     }
 
@@ -63,5 +66,54 @@ public final class NamesTest {
         for (int[] w : wrong) {
             Probe.dueThrow("flag(" + w[0] + ", " + w[1] + ")", Probe.INDEX, () -> x.flag(w[0], w[1]));
         }
+    }
+
+    /** The tape is the NAME, all of it and nothing behind its end. */
+    private static void findingWhatIsCut() {
+        Probe probe = Probe.loaded(TEXT);
+        probe.tape("both_and_more");
+        probe.x().end(4);
+        Probe.due("find of what was cut to a NAME", probe.x().find(1), 0);
+        probe.tape("both");
+        probe.x().end(3);
+        Probe.due("find of a NAME that was cut", probe.x().find(1), FlagLayers.NONE);
+        Probe.due("find of sixteen bytes and one", probe.find(1, "abcdefghijklmnopq"), FlagLayers.NONE);
+        Probe.due("find of fifteen of sixteen bytes", probe.find(1, "abcdefghijklmno"), FlagLayers.NONE);
+        Probe.due("find of a name in ' '", probe.find(1, "'both'"), FlagLayers.NONE);
+        Probe.due("find of a full tape", probe.find(1, "both" + Probe.times(5996, " ")), FlagLayers.NONE);
+    }
+
+    private static void eachByteOfEachName() {
+        FlagLayers x = Probe.loaded(TEXT).x();
+        String[][] names = {{"s0", "both"}, {"both", "n", "abcdefghijklmnop", "off_"}, {"n", "both"}};
+        for (int kind = 0; kind < names.length; kind++) {
+            for (int i = 0; i < names[kind].length; i++) {
+                dueName(x, kind, i, names[kind][i]);
+            }
+        }
+    }
+
+    private static void dueName(FlagLayers x, int kind, int i, String name) {
+        Probe.due("bytes of " + name, x.name(kind, i, FlagLayers.NONE), name.length());
+        for (int k = 0; k < name.length(); k++) {
+            Probe.due("byte " + k + " of " + name, x.name(kind, i, k), name.charAt(k));
+        }
+        Probe.dueThrow("byte behind " + name, Probe.INDEX, () -> x.name(kind, i, name.length()));
+        Probe.dueThrow("byte -2 of " + name, Probe.INDEX, () -> x.name(kind, i, -2));
+    }
+
+    private static void fullFlag() {
+        FlagLayers x = Probe.loaded("flag b:num{default 1;off -999999999;}flag a:choice(a,b,c,d,e,f,g,h){default a;off h;"
+                + Probe.times(4, "needs b=1;") + Probe.times(100, "rule true->a;") + "}flag c:choice(one){default one;off one;}").x();
+        int[][] want = {{1, 0, 0, 0, -999999999}, {2, 8, 4, 100, 7}, {2, 1, 0, 0, 0}};
+        for (int i = 0; i < want.length; i++) {
+            for (int what = 0; what < 5; what++) {
+                Probe.due("flag(" + i + ", " + what + ")", x.flag(i, what), want[i][what]);
+            }
+        }
+        Probe.dueThrow("flag(0, 5)", Probe.INDEX, () -> x.flag(0, 5));
+        Probe.dueThrow("flag(3, 0)", Probe.INDEX, () -> x.flag(3, 0));
+        // The rules that a layer has for a flag are not its own.
+        Probe.due("flag(0, 3)", Probe.loaded("flag a:num{default 1;off 1;}layer l{rule a true->1;}").x().flag(0, 3), 0);
     }
 }

@@ -5,6 +5,9 @@ public final class TapeTest {
         feeding();
         fullTape();
         cutting();
+        orderOfBytes();
+        emptyTape();
+        usedUp();
         Probe.finish();
     }
 
@@ -73,5 +76,83 @@ public final class TapeTest {
             x.end(n);
             return 0;
         });
+    }
+
+    /** Each number's highest byte first, the numbers in their order, behind what the tape had. */
+    private static void orderOfBytes() {
+        FlagLayers x = Probe.loaded("segment s = k is 'abcdefghijklmn'; segment abcdefghijklmnop = true;").x();
+        x.feed(0x6b203d20, 0x27616263, 0x64656667, 0x68696a6b, 0x6c6d6e27);
+        x.know();
+        Probe.due("isIn of what was fed", x.isIn(0), 1);
+        x.feed(0x61626364, 0x65666768, 0x696a6b6c, 0x6d6e6f70, 0x71727374);
+        x.end(16);
+        Probe.due("find of the first sixteen bytes", x.find(0), 1);
+        x.feed(0x61626364, 0x65666768, 0x78787878, 0, 0);
+        x.end(8);
+        x.feed(0x696a6b6c, 0x6d6e6f70, 0, 0, 0);
+        x.end(16);
+        Probe.due("find of bytes of two feeds", x.find(0), 1);
+        for (int high : new int[] {-1, Integer.MIN_VALUE, 0x80808080, 0x7fffffff, 0}) {
+            Probe.due("feed of " + high, x.feed(high, high, high, high, high), 20);
+            Probe.due("load of " + high, x.load(), -1);
+            Probe.due("fault of " + high, x.fault(), 1);
+        }
+    }
+
+    private static void emptyTape() {
+        FlagLayers x = new FlagLayers();
+        x.end(0);
+        dueNoEnd(x, 1);
+        dueNoEnd(x, -1);
+        dueNoEnd(x, 20);
+        Probe.due("find of an empty tape", x.find(1), FlagLayers.NONE);
+        Probe.dueThrow("know of an empty tape", Probe.ARGUMENT, () -> x.know());
+        Probe.due("load of an empty tape", x.load(), 0);
+        Probe.due("feed to an empty tape", x.feed(0, 0, 0, 0, 0), 20);
+        x.end(20);
+        x.end(20);
+        dueNoEnd(x, 21);
+        x.end(1);
+        dueNoEnd(x, 2);
+        Probe.due("feed behind one byte", x.feed(0, 0, 0, 0, 0), 21);
+    }
+
+    /** What reads the tape uses it up, whatever it answers. */
+    private static void usedUp() {
+        FlagLayers x = new FlagLayers();
+        String[] texts = {"", "flag", "segment s = true;", "k = 1", "k"};
+        for (String text : texts) {
+            for (int call = 0; call < 5; call++) {
+                Probe probe = new Probe();
+                probe.tape(text + Probe.times(40, " "));
+                int which = call;
+                try {
+                    read(probe.x(), which);
+                } catch (IllegalArgumentException refused) {
+                    Probe.due("only know refuses " + text, which, 1);
+                }
+                dueNoEnd(probe.x(), 1);
+                Probe.due("feed behind what was used up", probe.x().feed(0, 0, 0, 0, 0), 20);
+            }
+        }
+        // A full tape that is used up has room for another one.
+        for (int i = 0; i < 300; i++) {
+            x.feed(0x20202020, 0x20202020, 0x20202020, 0x20202020, 0x20202020);
+        }
+        Probe.due("load of a full tape of blanks", x.load(), 0);
+        Probe.due("feed behind it", x.feed(0, 0, 0, 0, 0), 20);
+    }
+
+    private static void read(FlagLayers x, int which) {
+        switch (which) {
+            case 0:
+                x.load();
+                break;
+            case 1:
+                x.know();
+                break;
+            default:
+                x.find(which - 2);
+        }
     }
 }

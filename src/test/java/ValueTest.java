@@ -8,7 +8,12 @@ public final class ValueTest {
         serving();
         layers();
         needs();
+        neededWorths();
         manyNeeds();
+        eightLayers();
+        layersTellInTheirOrder();
+        whatIsKnownNow();
+        whyOfLastRule();
         whyBeforeAny();
         wrongNumbers();
         Probe.finish();
@@ -32,6 +37,31 @@ public final class ValueTest {
         dueIn("k is 'ab'", "k = 'ab'", 1);
         dueIn("k is 'ab'", "k = 'aB'", 0);
         dueIn("k is 010", "k = 10", 1);
+        dueIn("k is 1", "k = 12", 0);
+        dueIn("k is 12", "k = 1", 0);
+        dueIn("k is 1", "k = -1", 0);
+        dueIn("k is 'ab'", "k = 'abc'", 0);
+        dueIn("k is 'ab'", "k = 'cab'", 0);
+        dueIn("k is 'ab'", "k = 'a'", 0);
+        dueIn("k is ''", "k = ''", 1);
+        dueIn("k is ''", "k = 'a'", 0);
+        dueIn("k is ''", "k = 0", 0);
+        dueIn("k is 'k'", "K = 'k'", 0);
+        dueIn("k is '0123456789abcdef'", "k = '0123456789abcdef'", 1);
+        dueIn("k is '0123456789abcdef'", "k = '0123456789abcdeF'", 0);
+        dueIn("k among (7)", "k = 7", 1);
+        dueIn("k among (7)", "k = 8", 0);
+        dueIn("k among ('7', 8)", "k = 7", 0);
+        dueIn("k among (7, 7, '')", "k = ''", 1);
+        dueIn("k among ('ab', 'cd')", "k = 'abcd'", 0);
+        dueIn("k below 999999999", "k = 999999998", 1);
+        dueIn("k below 999999999", "k = 999999999", 0);
+        dueIn("k below -999999999", "k = -999999999", 0);
+        dueIn("k above -999999999", "k = -999999999", 0);
+        dueIn("k above -999999999", "k = 999999999", 1);
+        dueIn("k above 0", "k = -0", 0);
+        dueIn("k below 10", "k = 9", 1);
+        dueIn("k above 9", "k = 10", 1);
         dueIn("k is -0", "k = 0", 1);
         dueIn("k among (1, 'b', 3)", "k = 1", 1);
         dueIn("k among (1, 'b', 3)", "k = 'b'", 1);
@@ -48,6 +78,23 @@ public final class ValueTest {
         dueIn("k begins 'ab'", "k = 'ab'", 1);
         dueIn("k begins 'ab'", "k = 'a'", 0);
         dueIn("k begins 'ab'", "k = 'cab'", 0);
+        dueIn("k begins 'ab'", "k = 'cb'", 0);
+        dueIn("k begins 'ab'", "k = 'ac'", 0);
+        dueIn("k begins ''", "k = 'a'", 1);
+        dueIn("k begins 'a'", "k = ''", 0);
+        dueIn("k ends 'ab'", "k = 'ab'", 1);
+        dueIn("k ends 'ab'", "k = 'abab'", 1);
+        dueIn("k ends 'ab'", "k = 'cb'", 0);
+        dueIn("k ends 'a'", "k = ''", 0);
+        dueIn("k ends ''", "k = 'a'", 1);
+        dueIn("k holds 'ab'", "k = 'ab'", 1);
+        dueIn("k holds 'ab'", "k = 'aab'", 1);
+        dueIn("k holds 'ab'", "k = 'aba'", 1);
+        dueIn("k holds 'ab'", "k = 'acb'", 0);
+        dueIn("k holds 'ab'", "k = 'ba'", 0);
+        dueIn("k holds 'a'", "k = ''", 0);
+        dueIn("k holds '0123456789abcdef'", "k = '0123456789abcdef'", 1);
+        dueIn("k holds '0123456789abcdef'", "k = '0123456789abcde'", 0);
         dueIn("k begins '1'", "k = 12", 0);
         dueIn("k ends 'bc'", "k = 'abc'", 1);
         dueIn("k ends 'bc'", "k = 'abcd'", 0);
@@ -71,6 +118,15 @@ public final class ValueTest {
         dueIn("false or false or k is 1", "k = 1", 1);
         dueIn("true and true and k is 2", "k = 1", 0);
         dueIn("false and true or false and true or true and true", "k = 1", 1);
+        dueIn("false or true or false", "k = 1", 1);
+        dueIn("true or false or false", "k = 1", 1);
+        dueIn("false or false or false", "k = 1", 0);
+        dueIn("true and false and true", "k = 1", 0);
+        dueIn("false and true and true", "k = 1", 0);
+        dueIn("true and true and true", "k = 1", 1);
+        dueIn("(false or true) and (true or false) and not (false or false)", "k = 1", 1);
+        dueIn("not true or true", "k = 1", 1);
+        dueIn("not (true or true)", "k = 1", 0);
     }
 
     private static void segments() {
@@ -232,5 +288,103 @@ public final class ValueTest {
         for (int[] w : wrong) {
             Probe.dueThrow("value(" + w[0] + ", " + w[1] + ")", Probe.INDEX, () -> x.value(w[0], w[1]));
         }
+    }
+
+    /** A flag that is needed may be worth what is needed by its off, too; it is all or nothing, in order. */
+    private static void neededWorths() {
+        Probe probe = Probe.loaded("flag top : bool { default true; off false; needs mid = 6; }"
+                + "flag mid : num { default 5; off 6; needs low = x; rule k is 2 -> 6; }"
+                + "flag low : choice(w, x) { default w; off w; rule k given -> x; }"
+                + "flag never : bool { default true; off false; needs low = w; needs low = x; needs mid = 5; }");
+        probe.dueValue(1, -1, 6, 1, -1, -1, -1, 2);
+        probe.dueValue(0, -1, 1, 0, -1, -1, -1, -1);
+        probe.dueValue(3, -1, 0, 1, -1, -1, -1, 2);
+        probe.knowing("k = 1");
+        probe.dueValue(1, -1, 5, 0, -1, -1, -1, -1);
+        probe.dueValue(0, -1, 0, 1, -1, -1, -1, 1);
+        probe.dueValue(3, -1, 0, 1, -1, -1, -1, 2);
+        probe.knowing("k = 2");
+        probe.dueValue(1, -1, 6, 2, -1, 0, -1, -1);
+        probe.dueValue(0, -1, 1, 0, -1, -1, -1, -1);
+        // Of four needs the last one is looked at, too.
+        Probe four = Probe.loaded("flag a:num{default 1;off 0;needs b=1;needs c=1;needs d=1;needs e=1;}"
+                + "flag b:num{default 1;off 0;}flag c:num{default 1;off 0;}flag d:num{default 1;off 0;}flag e:num{default 1;off 0;}"
+                + "layer l{set e=2;}layer m of l{set c=2;}layer n{off b;off e;}");
+        four.dueValue(0, -1, 1, 0, -1, -1, -1, -1);
+        four.dueValue(0, 0, 0, 1, -1, -1, -1, 4);
+        four.dueValue(0, 1, 0, 1, -1, -1, -1, 2);
+        four.dueValue(0, 2, 0, 1, -1, -1, -1, 1);
+    }
+
+    /** Eight layers, each of the one before it: the last one is reached through all of them. */
+    private static void eightLayers() {
+        StringBuilder text = new StringBuilder("flag a : num { default 1; off 2; } flag b : num { default 3; off 4; }");
+        text.append("layer l0 { set a = 10; rule b k is 1 -> 11; }");
+        for (int i = 1; i < 8; i++) {
+            text.append("layer l").append(i).append(" of l").append(i - 1).append(" { rule a k is ").append(i + 10).append(" -> ")
+                    .append(i).append("; }");
+        }
+        Probe probe = Probe.loaded(text.toString());
+        probe.dueValue(0, 7, 10, 5, 0, -1, -1, -1);
+        probe.dueValue(1, 7, 3, 0, -1, -1, -1, -1);
+        probe.knowing("k = 1");
+        probe.dueValue(1, 7, 11, 4, 0, 0, -1, -1);
+        probe.knowing("k = 14");
+        probe.dueValue(0, 7, 4, 4, 4, 4, -1, -1);
+        probe.dueValue(0, 4, 4, 4, 4, 4, -1, -1);
+        probe.dueValue(0, 3, 10, 5, 0, -1, -1, -1);
+        probe.dueValue(0, -1, 1, 0, -1, -1, -1, -1);
+    }
+
+    /** In one layer off comes before rules and these before set, wherever they stand; the layer before the one it is of. */
+    private static void layersTellInTheirOrder() {
+        Probe probe = Probe.loaded("flag a : num { default 1; off 2; } flag b : num { default 3; off 4; } flag c : num { default 5; off 6; }"
+                + "layer base { off a; off c; off b; }"
+                + "layer up of base { set b = 7; set b = 8; rule b k is 1 -> 9; rule b k given -> 10; rule c k is 2 -> 11; }"
+                + "layer two { off a; off b; off a; }");
+        probe.dueValue(0, 0, 2, 3, 0, -1, -1, -1);
+        probe.dueValue(1, 0, 4, 3, 0, -1, -1, -1);
+        probe.dueValue(2, 0, 6, 3, 0, -1, -1, -1);
+        probe.dueValue(0, 1, 2, 3, 0, -1, -1, -1);
+        probe.dueValue(1, 1, 7, 5, 1, -1, -1, -1);
+        probe.dueValue(2, 1, 6, 3, 0, -1, -1, -1);
+        probe.dueValue(0, 2, 2, 3, 2, -1, -1, -1);
+        probe.dueValue(1, 2, 4, 3, 2, -1, -1, -1);
+        probe.dueValue(2, 2, 5, 0, -1, -1, -1, -1);
+        probe.knowing("k = 1");
+        probe.dueValue(1, 1, 9, 4, 1, 0, -1, -1);
+        probe.knowing("k = 2");
+        probe.dueValue(1, 1, 10, 4, 1, 1, -1, -1);
+        probe.dueValue(2, 1, 11, 4, 1, 2, -1, -1);
+    }
+
+    /** value() goes by what is known when it is asked, though nothing else was asked in between. */
+    private static void whatIsKnownNow() {
+        Probe probe = Probe.loaded("segment s = k is 1; segment t = in s; flag a : num { default 0; off 9; rule in t -> 1; }");
+        probe.dueValue(0, -1, 0, 0, -1, -1, -1, -1);
+        probe.knowing("k = 1");
+        probe.dueValue(0, -1, 1, 2, -1, 0, -1, -1);
+        probe.knowing("k = 2");
+        probe.dueValue(0, -1, 0, 0, -1, -1, -1, -1);
+        probe.knowing("k = 1");
+        Probe.due("isIn(1)", probe.x().isIn(1), 1);
+        probe.x().forget();
+        probe.dueValue(0, -1, 0, 0, -1, -1, -1, -1);
+        Probe.due("isIn(1) of nobody", probe.x().isIn(1), 0);
+        // Another text goes by what is known, too.
+        probe.knowing("k = 1");
+        probe.tape("segment u = true; segment v = k is 2; flag b : num { default 5; off 9; rule in v -> 6; rule in u -> 7; }");
+        probe.x().load();
+        probe.dueValue(0, -1, 7, 2, -1, 1, -1, -1);
+    }
+
+    private static void whyOfLastRule() {
+        Probe probe = Probe.loaded("flag a:num{default 1;off 0;" + Probe.times(60, "rule false->2;") + "}flag b:num{default 1;off 0;"
+                + "rule k is 1->3;}layer l{" + Probe.times(38, "rule a false->4;") + "rule a true->5;}");
+        probe.dueValue(0, 0, 5, 4, 0, 99, -1, -1);
+        probe.dueValue(1, 0, 1, 0, -1, -1, -1, -1);
+        probe.knowing("k = 1");
+        probe.dueValue(1, 0, 3, 2, -1, 60, -1, -1);
+        probe.dueValue(0, -1, 1, 0, -1, -1, -1, -1);
     }
 }
