@@ -235,11 +235,7 @@ public final class ModelTest {
         if (thing == null) {
             return serve.values[last];
         }
-        long h = -3750763034362895579L;
-        for (char b : (serve.salt + "\0" + (isText(thing) ? thing.substring(1) : thing)).toCharArray()) {
-            h = (h ^ b) * 1099511628211L;
-        }
-        int place = (int) Long.remainderUnsigned(h ^ h >>> 32, 10000);
+        int place = Probe.placeOf(serve.salt, isText(thing) ? thing.substring(1) : thing);
         why[3] = place;
         return place < serve.numbers[0] ? serve.values[0] : serve.values[last];
     }

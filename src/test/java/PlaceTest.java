@@ -10,21 +10,8 @@ public final class PlaceTest {
         Probe.finish();
     }
 
-    /** As the document tells it, apart from the class. */
-    private static long mixed(String salt, String thing) {
-        long h = -3750763034362895579L;
-        for (char b : (salt + "\0" + thing).toCharArray()) {
-            h = (h ^ b) * 1099511628211L;
-        }
-        return h ^ h >>> 32;
-    }
-
-    private static int placeOf(String salt, String thing) {
-        return (int) Long.remainderUnsigned(mixed(salt, thing), 10000);
-    }
-
     private static void duePlace(String salt, String known, String bytes) {
-        int place = placeOf(salt, bytes);
+        int place = Probe.placeOf(salt, bytes);
         Probe probe = Probe.loaded("flag f:num{default roll " + place + " k '" + salt + "' 1 else 2;off 0;"
                 + "rule n given->roll " + (place + 1) + " k '" + salt + "' 3 else 4;}").knowing("k = " + known);
         probe.dueValue(0, -1, 2, 0, -1, -1, place, -1);
@@ -48,7 +35,7 @@ public final class PlaceTest {
     private static void placesThatWouldBeNegative() {
         int met = 0;
         for (int i = 0; i < 1000 && met < 20; i++) {
-            if (mixed("s", "u" + i) < 0) {
+            if (Probe.mixed("s", "u" + i) < 0) {
                 duePlace("s", "'u" + i + "'", "u" + i);
                 met++;
             }
@@ -60,11 +47,11 @@ public final class PlaceTest {
         Probe probe = Probe.loaded("flag f:num{default roll 0 k 'ab' 1 else 2;off 0;}flag g:num{default roll 0 k 'a' 1 else 2;off 0;}");
         probe.knowing("k = 'c'");
         probe.x().value(0, -1);
-        Probe.due("place of ab and c", probe.x().why(3), placeOf("ab", "c"));
+        Probe.due("place of ab and c", probe.x().why(3), Probe.placeOf("ab", "c"));
         probe.knowing("k = 'bc'");
         probe.x().value(1, -1);
-        Probe.due("place of a and bc", probe.x().why(3), placeOf("a", "bc"));
-        Probe.due("they are not the same", placeOf("ab", "c") == placeOf("a", "bc") ? 1 : 0, 0);
+        Probe.due("place of a and bc", probe.x().why(3), Probe.placeOf("a", "bc"));
+        Probe.due("they are not the same", Probe.placeOf("ab", "c") == Probe.placeOf("a", "bc") ? 1 : 0, 0);
     }
 
     /** A NUMBER is what it is worth, however many zeros stand before it. */
@@ -81,7 +68,7 @@ public final class PlaceTest {
 
     private static String thingAt(int place) {
         for (int i = 0; i < 1000000; i++) {
-            if (placeOf("s", "u" + i) == place) {
+            if (Probe.placeOf("s", "u" + i) == place) {
                 return "u" + i;
             }
         }

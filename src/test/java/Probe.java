@@ -102,6 +102,19 @@ final class Probe {
         }
     }
 
+    /** h of the document, followed apart from the class, before it is taken modulo 10000. */
+    static long mixed(String salt, String thing) {
+        long h = -3750763034362895579L;
+        for (char b : (salt + "\0" + thing).toCharArray()) {
+            h = (h ^ b) * 1099511628211L;
+        }
+        return h ^ h >>> 32;
+    }
+
+    static int placeOf(String salt, String thing) {
+        return (int) Long.remainderUnsigned(mixed(salt, thing), 10000);
+    }
+
     static String times(int count, String text) {
         return text.repeat(count);
     }

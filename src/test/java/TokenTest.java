@@ -99,8 +99,9 @@ public final class TokenTest {
         for (String blanks : new String[] {" ", "\t", "\n", "\r", " \t\r\n "}) {
             Probe.dueRight(blanks + String.join(blanks, tokens) + blanks, 1);
         }
-        Probe.dueRight("flag a:choice(x,y){default split k's'(1:x,9999:y);off x;rule k is-1or not(k among(2,'t'))->".replace("1or", "1 or")
-                + "roll 5k''x else y;}layer l{}layer m of l{set a=x;}".replace("5k", "5 k"), 1);
+        // Without any, but between words and numbers that would run together.
+        Probe.dueRight("flag a:choice(x,y){default split k's'(1:x,9999:y);off x;rule k is-1 or not(k among(2,'t'))->"
+                + "roll 5 k''x else y;}layer l{}layer m of l{set a=x;}", 1);
     }
 
     private static void lengthsOfWords() {
