@@ -17,6 +17,7 @@ public final class TokenTest {
             byteBehindMinus((char) b);
             byteOfText((char) b);
         }
+        greaterBehindOthers();
         blanksAnywhere();
         lengthsOfWords();
         lengthsOfNumbers();
@@ -91,6 +92,18 @@ public final class TokenTest {
         } else {
             Probe.dueFault("segment s=k is ^'a" + b + "';", 1);
         }
+    }
+
+    /** Only behind - is > the rest of a sign; behind all else it begins no token. */
+    private static void greaterBehindOthers() {
+        for (String right : new String[] {"segment s=", "segment s=(", "segment s=(true)", "segment s=true;", "segment s=k among(1,",
+            "flag a:", A, "layer l{", "segment s=k is 1", "segment s=k is 'a'", "segment s", " ", A + "layer l{rule a true->"}) {
+            Probe.dueFault(right + "^>", 1);
+        }
+        Probe.dueFault("^#>", 1);
+        Probe.dueFault("segment s=^\0>", 1);
+        Probe.dueFault(A + "layer l{rule a true ^- > true;}", 1);
+        Probe.dueRight(A + "layer l{rule a k is-1->true;}", 1);
     }
 
     private static void blanksAnywhere() {
